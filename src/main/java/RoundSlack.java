@@ -14,8 +14,8 @@ public final class RoundSlack {
     private static final int MOST_PENALTY = 9999, MOST_CAPACITY = 200, MOST_DAY = 999;
     private static final int MOST_PRICE = 9, MOST_FIXED = 999, MOST_REGRET = 4;
     private static final int ROWS = 4, MOST_ROW = 40, MOST_TAPE = 160, MOST_PAPER = 64;
-    /** 160 bytes have no room for more than 16 orders of 9 bytes with a sign between. */
-    private static final int MOST_PARTS = 16;
+    /** 160 bytes have room for 16 orders of 9 bytes, a sign behind each, and one begun behind that. */
+    private static final int MOST_PARTS = 17;
     private static final int SHIFT = 0, SWAP = 1, CROSS = 2, TURN = 3, KINDS = 4;
     private static final int DRIVE = 0, DURATION = 1, FIXED = 2;
     private static final int NOT_GOOD = -1, NEVER = 100000;
