@@ -322,6 +322,7 @@ public final class PromisesTest {
             due("of 4", x.of(4, what), want[0][what]);
             due("of 5", x.of(5, what), want[1][what]);
         }
+        due("none down, none up", orders(new RoundSlack(), "1,2@3-4/5d0u0"), 1);
         due("down alone", orders(x, "1,2@3-4/5d7"), 1);
         due("down", x.of(6, 5), 7);
         due("up", x.of(6, 6), 0);
@@ -614,6 +615,14 @@ public final class PromisesTest {
         due("van", x.piece(4, 0, 0, 0), NONE);
         due("van", x.piece(-1, 0, 0, 0), NONE);
         due("no stops", x.piece(0, 0, 0, 0), NONE);
+        RoundSlack z = new RoundSlack();
+        due("order", z.order(0, 0, 0, 10, 0), 0);
+        due("order", z.order(0, 9, 20, 30, 0), 1);
+        due("plan", plan(z, "0:0,1"), 2);
+        int[] one = {10, 10, 10, 9, 0, 0, 0};
+        for (int what = 0; what < 7; what++) {
+            due("a wait of one hour " + what, z.piece(0, 0, 1, what), one[what]);
+        }
         RoundSlack y = new RoundSlack();
         due("closes early", y.order(10, 0, 5, 20, 2), 0);
         due("opens late", y.order(20, 0, 100, 110, 3), 1);
@@ -756,6 +765,14 @@ public final class PromisesTest {
         due("steps", x.told(3), 3);
     }
 
+    /** Two orders that cost no driving. */
+    private static RoundSlack atTheDepot() {
+        RoundSlack x = new RoundSlack();
+        due("order", x.order(0, 0, 0, 600, 0), 0);
+        due("order", x.order(0, 0, 0, 600, 0), 1);
+        return x;
+    }
+
     private static RoundSlack crossed() {
         RoundSlack x = line();
         due("van", x.van(3, 100, 0, 59), 1);
@@ -868,6 +885,8 @@ public final class PromisesTest {
         due("not good", x.move(0, 3, 3, 0), NOT);
         due("not good", x.move(2, 0, 3, 0), NOT);
         due("none", x.move(0, 0, 0, 4), NONE);
+        notGoodInTheFirst();
+        crossTwelve();
         due("none", x.move(1, 1, 0, 0), NONE);
         due("none", x.move(2, 0, 1, 5), NONE);
         due("none", x.move(3, 0, 0, 4), NONE);
@@ -875,6 +894,38 @@ public final class PromisesTest {
         due("kind", x.move(-1, 0, 0, 0), NONE);
         due("steps", x.told(3), 9);
         dueRounds(x, "0:0,3,2,1");
+    }
+
+    private static void notGoodInTheFirst() {
+        RoundSlack y = square();
+        due("plan", plan(y, "0:1,3;1:2"), 3);
+        due("turn", y.move(3, 0, 0, 1), 1);
+        due("turn back", y.move(3, 0, 0, 1), 1);
+        due("order", y.order(0, 1, 0, 1, 0), 5);
+        due("plan", plan(y, "0:5,3"), 2);
+        due("turn, too late then", y.move(3, 0, 0, 1), NOT);
+        due("swap, too late then", y.move(1, 3, 5, 0), NOT);
+        due("steps", y.told(3), 0);
+        due("plan", plan(y, "0:5;1:2"), 2);
+        due("shift in front", y.move(0, 2, 0, 0), NOT);
+        due("cross in front", y.move(2, 0, 1, 0), 1);
+        dueRounds(y, "0:2;1:5");
+        due("cross behind", y.move(2, 0, 1, 1), NOT);
+    }
+
+    private static void crossTwelve() {
+        RoundSlack y = new RoundSlack();
+        for (int i = 0; i < 12; i++) {
+            due("order", y.order(i, 0, 0, 600, 0), i);
+        }
+        due("plan", plan(y, "1:0,1,2,3,4,5,6,7,8,9;2:10,11"), 12);
+        due("twelve", y.may(2, 1, 2, 10), 1);
+        due("twelve in one", y.move(2, 1, 2, 10), 1);
+        dueRounds(y, "1:0,1,2,3,4,5,6,7,8,9,10,11");
+        due("twelve to another", y.move(2, 1, 3, 0), 1);
+        dueRounds(y, "3:0,1,2,3,4,5,6,7,8,9,10,11");
+        due("and back", y.move(2, 0, 3, 16 * 11), 1);
+        dueRounds(y, "0:11;3:0,1,2,3,4,5,6,7,8,9,10");
     }
 
     private static void p30Best() {
@@ -901,6 +952,12 @@ public final class PromisesTest {
             due("turn " + what, y.best(3, what), new int[] {0, 0, 1, 20}[what]);
         }
         due("no orders", new RoundSlack().best(2, 0), LACK);
+        RoundSlack z = atTheDepot();
+        due("fixed", z.price(2, 1), 0);
+        due("plan", plan(z, "0:0;1:1"), 2);
+        due("1 less", z.best(0, 3), 1);
+        due("by c as well", z.best(0, 2), 0);
+        due("none by a swap", z.best(1, 3), LACK);
     }
 
     private static void p31Descent() {
@@ -920,6 +977,11 @@ public final class PromisesTest {
         due("steps", x.told(3), 2);
         due("back", x.back(), 1);
         dueRounds(x, "0:0;1:1,3,2");
+        RoundSlack z = atTheDepot();
+        due("fixed", z.price(2, 1), 0);
+        due("plan", plan(z, "0:0;1:1"), 2);
+        due("1 less is less", z.descent(3), 1);
+        dueRounds(z, "1:0,1");
         RoundSlack y = crossed();
         due("two at once", y.descent(2), 2);
         due("are one step", y.told(3), 1);
@@ -1002,7 +1064,11 @@ public final class PromisesTest {
         for (int v = 0; v < 4; v++) {
             due("van", y.van(v, 100, 0, 150), 1);
         }
-        due("never in all", y.regret(4, 4), 4 * 0);
+        due("never in all", y.regret(4, 4), 0);
+        due("put", y.put(3, 2, 0), 1);
+        // Order 0 is on the way of van 2 and costs 20 in each other.
+        due("a later van is the least", y.regret(0, 2), 20);
+        due("all", y.regret(0, 4), 60);
     }
 
     private static void p36First() {
@@ -1031,6 +1097,18 @@ public final class PromisesTest {
         due("1 comes to van 0 alone", y.first(2), 1);
         due("plan", plan(y, "0:0,1,2,3"), 4);
         due("4 has no price", y.first(2), LACK);
+        RoundSlack z = new RoundSlack();
+        due("order", z.order(0, 9, 0, 600, 0), 0);
+        due("order", z.order(0, 8, 0, 600, 0), 1);
+        due("order", z.order(0, 7, 0, 600, 0), 2);
+        due("order", z.order(0, 7, 0, 600, 0), 3);
+        due("regrets by 1 are alike: least price, then least order", z.first(1), 2);
+        due("by 4, too", z.first(4), 2);
+        due("put", z.put(0, 3, 0), 1);
+        // On the way of van 3: regrets by 2 are what another van costs, 16, 14, 14.
+        due("greatest regret, not least order", z.first(2), 1);
+        due("put", z.put(1, 3, 0), 1);
+        due("of like ones the least order", z.first(2), 2);
     }
 
     private static void p37Fill() {
@@ -1057,6 +1135,8 @@ public final class PromisesTest {
         RoundSlack z = new RoundSlack();
         due("order", z.order(1, 0, 0, 600, 0), 0);
         due("one alone", z.fill(4), 1);
+        due("is a step", z.told(3), 1);
+        due("van 0 has it", z.told(2), 1);
         dueRounds(z, "0:0");
     }
 
@@ -1110,6 +1190,13 @@ public final class PromisesTest {
         due("steps", x.told(3), 0);
         due("ruin", x.ruin(0, 12), 3);
         due("none to take out, all come", x.again(0, 1, 1), 1500 - 80);
+        RoundSlack y = atTheDepot();
+        due("penalty", y.load(0, 2, 1), 500);
+        due("penalty", y.load(1, 2, 1), 500);
+        due("fixed", y.price(2, 1), 0);
+        due("1 less", y.again(0, 1, 1), 1);
+        due("cost", y.cost(-1), 1);
+        due("steps", y.told(3), 1);
     }
 
     private static void p40Back() {
@@ -1169,8 +1256,10 @@ public final class PromisesTest {
         RoundSlack x = new RoundSlack();
         due("row", x.row(0, 40), 1);
         due("last", x.get(0, 39), 0);
+        due("set", x.set(0, 0, 4), 1);
         due("set", x.set(0, 1, 5), 1);
         due("anew", x.row(0, 2), 1);
+        due("all 0", x.get(0, 0), 0);
         due("all 0", x.get(0, 1), 0);
         due("shorter", x.get(0, 2), NO);
         due("row 3", x.row(3, 0), 1);
@@ -1241,6 +1330,8 @@ public final class PromisesTest {
         for (int i = 0; i < 9; i++) {
             due("none was laid " + i, x.get(0, i), then[i]);
         }
+        due("one place", x.lay(0, 8), BEYOND);
+        due("the first one has it", x.get(0, 8), 3);
         due("row of none", x.row(1, 0), 1);
         due("no room", x.lay(1, 0), BEYOND);
         RoundSlack y = new RoundSlack();
