@@ -1499,7 +1499,8 @@ public final class RoundSlack {
             rounds.clearAll();
             int van = NONE;
             boolean more = true;
-            while (more && van < VANS) {
+            // A fifth one can't be higher than those ahead: that it is read is a FAULT.
+            for (int i = 0; i <= VANS && more; i++) {
                 van = number(1, van + 1, VANS - 1);
                 pass(':');
                 readRound(rounds, van, orders);

@@ -25,7 +25,7 @@ public final class RoomTest {
         for (int run = 0; run < 400; run++) {
             RoundSlack x = new RoundSlack();
             if (run % 2 == 0) full(x, run);
-            for (int call = 0; call < 512; call++) {
+            for (int call = 0; call < 486; call++) {
                 Method m = all[chance.nextInt(all.length)];
                 Object[] with = new Object[m.getParameterCount()];
                 boolean wild = chance.nextInt(3) == 0;
@@ -76,7 +76,7 @@ public final class RoomTest {
             x.order(o * 7 % 41, o * 11 % 41, 0, 600, 3);
             x.load(o, o % 2, 20);
         }
-        for (int i = 0; i < 30; i++) {
+        for (int i = 0; i < 21; i++) {
             x.fill(1 + i % 4);
             x.image();
             x.again(i % 12, 1 + i % 12, 1 + i % 4);
