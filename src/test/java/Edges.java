@@ -11,6 +11,14 @@ abstract class Edges {
     static final long NO = Long.MIN_VALUE;
     static final int LEAST = Integer.MIN_VALUE, MOST = Integer.MAX_VALUE;
 
+    static final int[] NO_VANS = {-1, 4, LEAST, MOST};
+    /** Sentences that hold for calls of all parts. */
+    static final String FIRST_WORD = "the first that a call's words name (-5 is told only where none of them is)";
+    static final String STEP = "STEPS DONE: each call of put(), take(), move(), descent(), fill(), ruin(), again()"
+            + " that changes ROUNDS is one";
+    static final String FORGOTTEN = "All are forgotten when depot(), order(), load(), van(), orders(), plan() or undo()"
+            + " does what it is asked";
+
     /** The calls of one test, on an object that is new. */
     interface Calls {
         void on(RoundSlack x);
@@ -138,6 +146,11 @@ abstract class Edges {
     /** Orders one behind the other: 0 is 1 from the depot, 1 is 2 from it, .. */
     static void line(RoundSlack x, int orders) {
         for (int i = 0; i < orders; i++) due(x.order(i + 1, 0, 0, 600, 0), i);
+    }
+
+    /** Orders with all hours open: x and y of each. */
+    static void places(RoundSlack x, int... xy) {
+        for (int i = 0; i < xy.length / 2; i++) due(x.order(xy[2 * i], xy[2 * i + 1], 0, 600, 0), i);
     }
 
     /** So many orders that cost no driving. */

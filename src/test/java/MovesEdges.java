@@ -14,11 +14,7 @@ final class MovesEdges extends Edges {
             + " several the first (by a, then b, then c)";
     private static final String DESCENT = "DESCENT: as long as there is one, the BEST of the first KIND (0, 1, ..) that has"
             + " one is done (so many at most)";
-    private static final String STEP = "STEPS DONE: each call of put(), take(), move(), descent(), fill(), ruin(), again()"
-            + " that changes ROUNDS is one";
-    private static final String FIRST_WORD = "the first that a call's words name (-5 is told only where none of them is)";
     private static final String ALWAYS_GOOD = "All ROUNDS are GOOD at all times";
-    private static final int[] NO_VANS = {-1, 4, LEAST, MOST};
 
     @Override
     void all() {
@@ -354,6 +350,15 @@ final class MovesEdges extends Edges {
             due(plan(x, "0:0,1"), 2);
             due(x.take(0), 0);
             still(x, () -> x.take(0), STATE);
+        });
+        edge(26, ALWAYS_GOOD, "one of a tight round is taken out", x -> {
+            tight(x);
+            due(x.take(0), 0);
+            due(x.driven(0, 0, 2), 6);
+            due(x.slack(0, 0), 1);
+            due(x.row(0, 6), 1);
+            due(x.lay(0, 0), 6);
+            due(x.judge(0, 0), x.cost(-1));
         });
         edge(26, STEP, "by take", x -> {
             line(x, 2);
@@ -739,10 +744,6 @@ final class MovesEdges extends Edges {
         still(x, () -> x.best(kind, 3), want.length == 4 ? want[3] : LACK);
     }
 
-    private static void places(RoundSlack x, int... xy) {
-        for (int i = 0; i < xy.length / 2; i++) due(x.order(xy[2 * i], xy[2 * i + 1], 0, 600, 0), i);
-    }
-
     private static void p30Best() {
         String told = "Of the BEST of a KIND what 0 a, 1 b, 2 c, 3 GAIN; -5: there is none";
         edge(30, told, "shift", x -> {
@@ -756,6 +757,10 @@ final class MovesEdges extends Edges {
         edge(30, told, "cross", x -> {
             corners(x, "0:0,1;3:3,2", 4);
             dueBest(x, 2, 0, 3, 17, 40);
+        });
+        edge(30, told, "cross, j is more than the first van's stops", x -> {
+            corners(x, "1:0;2:1,3,2", 4);
+            dueBest(x, 2, 1, 2, 1 + 16 * 2, 20);
         });
         edge(30, told, "turn", x -> {
             corners(x, "2:0,1,2,3", 4);
@@ -987,6 +992,13 @@ final class MovesEdges extends Edges {
                     due(x.many(one), row[1 + one]);
                 });
             }
+        }
+        for (int n : new int[] {1, 2, 12}) {
+            edge(32, CROSS, n + " stops of the last van, none of the others", x -> {
+                line(x, n);
+                due(plan(x, "3:0,1,2,3,4,5,6,7,8,9,10,11".substring(0, n < 11 ? 1 + 2 * n : 27)), n);
+                due(x.many(2), 3 * n);
+            });
         }
         for (int kind = 0; kind < 4; kind++) {
             int one = kind;

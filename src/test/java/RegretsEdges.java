@@ -12,12 +12,8 @@ final class RegretsEdges extends Edges {
             + " like ones the lesser numbers; itself, too, if it is in one; all, if there are fewer) are taken out";
     private static final String AGAIN = "AGAIN around an ORDER by n and k: RUIN, FILLED by k, a DESCENT of 40 at most; is"
             + " COST of all not less then, all is as it was";
-    private static final String STEP = "STEPS DONE: each call of put(), take(), move(), descent(), fill(), ruin(), again()"
-            + " that changes ROUNDS is one";
     private static final String SIXTEEN = "the latest 16 can be taken back, the latest first: ROUNDS are then as they were"
             + " ahead of it";
-    private static final String FIRST_WORD = "the first that a call's words name (-5 is told only where none of them is)";
-    private static final int[] NO_VANS = {-1, 4, LEAST, MOST};
     private static final int[] NO_K = {0, 5, -1, LEAST, MOST};
 
     @Override
@@ -197,10 +193,6 @@ final class RegretsEdges extends Edges {
             due(x.put(0, 1, 0), 1);
             due(x.placed(0, 4), NONE);
         });
-    }
-
-    private static void places(RoundSlack x, int... xy) {
-        for (int i = 0; i < xy.length / 2; i++) due(x.order(xy[2 * i], xy[2 * i + 1], 0, 600, 0), i);
     }
 
     private static void p35Regret() {
@@ -474,6 +466,13 @@ final class RegretsEdges extends Edges {
             due(plan(x, "0:0,1,2"), 3);
             due(x.ruin(2, 2), 2);
             dueRounds(x, "0:0");
+        });
+        edge(38, "(of like ones the lesser numbers; itself, too, if it is in one; all, if there are fewer)",
+                "itself and a lesser one at the same place", x -> {
+            places(x, 5, 0, 7, 0, 7, 0);
+            due(plan(x, "0:0,1,2"), 3);
+            due(x.ruin(2, 1), 1);
+            dueRounds(x, "0:0,2");
         });
         edge(38, RUIN, "where the others stand stays", x -> {
             line(x, 5);

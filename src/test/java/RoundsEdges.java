@@ -14,7 +14,6 @@ final class RoundsEdges extends Edges {
     private static final String COST_OF_VAN = "COST of a VAN: 0 with no STOPS; else FIXED, and DRIVE and DURATION of the"
             + " whole ROUND times their PRICES";
     private static final String COST_OF_ALL = "COST of all: of the VANS, and the PENALTIES of ORDERS that are LEFT";
-    private static final int[] NO_VANS = {-1, 4, LEAST, MOST};
 
     @Override
     void all() {

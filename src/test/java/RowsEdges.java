@@ -1,13 +1,10 @@
 /** Promises 42 to 48: rows, the image. */
 final class RowsEdges extends Edges {
-    private static final String FIRST_WORD = "the first that a call's words name (-5 is told only where none of them is)";
     private static final String LAID = "LAID into a ROW from a place on: VAN by VAN its ORDERS, STOP by STOP, and -1 behind"
             + " each VAN, until a place isn't there";
     private static final String TOLD_PLAN = "A TOLD PLAN: of a ROW from a place on up to the fourth -1 likewise";
     private static final String IMAGE = "THE IMAGE: ORDERS, VANS, THE DEPOT, PRICES, FIXED, ROUNDS (THE TAPE, THE PAPER, ROWS"
             + " stay by undo())";
-    private static final String FORGOTTEN = "All are forgotten when depot(), order(), load(), van(), orders(), plan() or undo()"
-            + " does what it is asked";
     private static final String ASKED = "what is asked changes nothing but THE PAPER, ROWS that are told";
     private static final int[] NO_ROWS = {-1, 4, LEAST, MOST};
 

@@ -1,9 +1,6 @@
 /** Promises 1 to 14: what is told. */
 final class ToldEdges extends Edges {
-    private static final String FORGOTTEN = "All are forgotten when depot(), order(), load(), van(), orders(), plan() or undo()"
-            + " does what it is asked";
     private static final String REFUSED = "What is answered so changes nothing (but ROWS by BEYOND, as told)";
-    private static final String FIRST_WORD = "the first that a call's words name (-5 is told only where none of them is)";
     private static final String GOES_ON = "otherwise the place (from 0) of the first byte with which no such text goes on";
     private static final String TOO_EARLY = "the length, if it ends too early";
     private static final String NO_BLANKS = "(in both texts no blanks stand anywhere)";
@@ -245,6 +242,7 @@ final class ToldEdges extends Edges {
                 });
             }
         }
+        edge(3, "BAD: a number of these", "OPEN and CLOSE are 601", x -> still(x, () -> x.order(0, 0, 601, 601, 0), BAD));
         edge(3, "SERVICE (0 .. 60)", "one too many", x -> still(x, () -> x.order(0, 0, 0, 0, 61), BAD));
         edge(3, "FULL: 12", "the twelfth comes, a thirteenth doesn't", x -> {
             line(x, 12);
@@ -490,7 +488,28 @@ final class ToldEdges extends Edges {
         });
     }
 
+    /** No call but those that are told forgets steps. */
+    private static void noOtherForgets(RoundSlack x) {
+        line(x, 1);
+        twoSteps(x);
+        due(x.price(2, 9), 0);
+        feed(x, "0:0");
+        due(x.clear(), 3);
+        due(x.spell(), 0);
+        due(x.row(0, 5), 1);
+        due(x.set(0, 0, 7), 1);
+        due(x.lay(0, 1), 4);
+        due(x.judge(0, 1), 500);
+        due(x.image(), 1);
+        due(x.best(0, 0), LACK);
+        due(x.first(1), 0);
+        due(x.told(3), 2);
+        due(x.back(), 1);
+        dueRounds(x, "0:0");
+    }
+
     private static void p7Feed() {
+        edge(7, FORGOTTEN, "not by feed, nor by any call that isn't told", x -> noOtherForgets(x));
         edge(7, "A byte (1 .. 127) comes behind THE TAPE's: how many it has", "the least and the greatest", x -> {
             due(x.feed(1), 1);
             due(x.feed(127), 2);
@@ -879,6 +898,18 @@ final class ToldEdges extends Edges {
         planFault("VAN (1 figure), : , and ORDERS (1 or 2 figures) with , between, one or more", "0:001", 4);
         planFault("VAN (1 figure), : , and ORDERS (1 or 2 figures) with , between, one or more", "0:000", 4);
         planFault("VAN (1 figure), : , and ORDERS (1 or 2 figures) with , between, one or more", "0:010", 4);
+        fifthVan(TOO_EARLY, ";");
+        fifthVan(NOT_ALLOWED, ";4");
+        fifthVan(NOT_ALLOWED, ";3:4");
+        fifthVan("each higher than the one ahead", ";0:4");
+        fifthVan(GOES_ON, ";x");
+        fifthVan(NO_BLANKS, "; 4");
+        edge(10, FIGURES, "order 10 of two figures, then a third one", x -> {
+            line(x, 11);
+            due(plan(x, "0:100"), -104);
+            due(plan(x, "0:110"), -102);
+            due(plan(x, "0:10"), 1);
+        });
         planFault(FIGURES, "0:300", 2);
         planFault(FIGURES, "0:120x", 2);
         planFault("FAULT of a text (the first that is met from the left)", "0:1,1;9:x", 4);
@@ -892,6 +923,15 @@ final class ToldEdges extends Edges {
             line(x, 1);
             due(plan(x, "0:0" + "x".repeat(157)), -103);
             due(x.told(4), 0);
+        });
+    }
+
+    private static void fifthVan(String sentence, String behind) {
+        edge(10, sentence, "behind four vans " + behind, x -> {
+            line(x, 5);
+            due(plan(x, "0:0;1:1;2:2;3:3" + behind), -116);
+            dueRounds(x, "");
+            due(plan(x, "0:0;1:1;2:2;3:3"), 4);
         });
     }
 
